@@ -973,7 +973,7 @@ public final class GrilleHotel {
         }
 
         private int letter(int sign) {
-            if (!isRoom(from) || !isRoom(at)) {
+            if (from < 0 || from >= ROOMS || at < 0 || at >= ROOMS) {
                 return 0;
             }
             switch (sign) {
@@ -984,7 +984,7 @@ public final class GrilleHotel {
                 case 'p':
                     return at;
                 case 'f':
-                    return floorOf(at);
+                    return at / COLUMNS;
                 case 'w':
                     return shaft.felt[at];
                 case 'g':

@@ -7,6 +7,7 @@ public final class HoursTest {
         settling();
         draws();
         tried();
+        smallAndLarge();
         bounds();
         lastHour();
         Due.end("HoursTest");
@@ -164,6 +165,30 @@ public final class HoursTest {
             all[what] = h.count(what);
         }
         return all;
+    }
+
+    private static void smallAndLarge() {
+        GrilleHotel h = new GrilleHotel();
+        h.guest(1, 1);
+        h.guest(2, 5000);
+        Due.law(h, "c100(1=1);k100(p=6)");
+        Due.is("8: 99 at most are sent up", h.tried(1, 3), 5000 - 99);
+        Due.is("8: the last one is sent, too", h.tried(1, 2), 1);
+        Due.is("9: 99 at most settle", h.tried(1, 1), 99);
+        Due.is("9: in two hours", h.tried(2, 1), 198);
+        Due.law(h, "c5(h=0)");
+        Due.is("6: the hour modulo 24", h.tried(24, 2), 6);
+        Due.is("6: the hour modulo 24", h.tried(25, 2), 11);
+        Due.law(h, "c5(h=24)");
+        Due.is("6: no hour 24", h.tried(49, 2), 0);
+        h.guest(0, 8);
+        h.guest(4, 0);
+        h.seed(0);
+        Due.law(h, "c1(r=0);d9(1=1)");
+        Due.is("8: a draw of 9 is not below 9", h.hours(1), 0);
+        h.seed(0);
+        Due.law(h, "c1(r=0);d99(1=1)");
+        Due.is("8: ten tenths at most, always", h.hours(1), 1);
     }
 
     private static void bounds() {

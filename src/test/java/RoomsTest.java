@@ -128,6 +128,7 @@ public final class RoomsTest {
         Due.is("10: like much of two", h.roomIs(8, 7), 0);
         Due.is("21: of 0 behind", h.breakfast(0), Due.bits(8));
         feltOfItself();
+        feltInTheLowest();
         feltAtMost();
     }
 
@@ -138,6 +139,28 @@ public final class RoomsTest {
         Due.is("11: feels(0, 0)", h.feels(0, 0), 5);
         Due.is("11: feels(4, 0)", h.feels(4, 0), 0);
         Due.is("10: roomIs(0, 7)", h.roomIs(0, 7), 0);
+    }
+
+    private static void feltInTheLowest() {
+        GrilleHotel h = new GrilleHotel();
+        h.guest(1, 1);
+        h.guest(5, 0);
+        Due.law(h, "c5(1=1);d10(1=1)");
+        h.hours(1);
+        Due.is("10: one of room 1", h.roomIs(5, 7), 1);
+        Due.register(h, "5@1");
+        Due.is("21: room 1", h.breakfast(100), 1);
+        Due.is("21: of room 1", h.breakfast(1), Due.bits(1));
+        Due.register(h, "1@0");
+        Due.is("21: room 0", h.breakfast(100), 0);
+        Due.is("21: of room 1", h.breakfast(1), Due.bits(0));
+        Due.is("26: median of 0 1", h.dust(1), 0);
+        Due.register(h, "5!");
+        Due.is("26: room 0 alone", h.dust(0), 0);
+        Due.is("26: room 0 alone", h.dust(1), 1);
+        Due.register(h, "0!");
+        Due.is("31: no sins", h.count(7), 0);
+        Due.is("26: none", h.dust(1), -2);
     }
 
     private static void feltAtMost() {

@@ -182,6 +182,8 @@ public final class TapeTest {
         }
         Due.is("25: own", Due.linen(h, 5, 100, 0, 1, 2), 1);
         Due.is("25: own rounds", Due.linen(h, 5, 101, 0, 1, 2), 3);
+        Due.is("25: one with its own", Due.linen(h, 5, 100, 1, 0, 2), 2);
+        Due.is("25: one round", Due.linen(h, 5, 100, 1, 2, 3, 0), 4);
         int[] many = new int[24];
         int[] rounds = {3, 5, 7, 8, 1};
         int start = 0;

@@ -69,6 +69,8 @@ public final class WaysTest {
         Due.is("13: not on the way", h.odds(0, 5, 3, 0), 0);
         Due.is("13: not on the way", h.odds(0, 5, 3, 1), 1);
         Due.is("13: below", h.odds(8, 4, 3, 0), 0);
+        Due.is("13: room 0", h.odds(8, 0, 3, 0), 0);
+        Due.is("13: room 0", h.odds(8, 0, 3, 1), 1);
         Due.is("13: from the top", h.odds(20, 24, 3, 0), 1);
         Due.is("13: from the top", h.odds(20, 24, 3, 1), 1);
         int[][] wrong = {{24, 0, 3, 0}, {-1, 0, 3, 0}, {0, 25, 3, 0}, {0, -1, 3, 0}, {0, 4, -1, 0}, {0, 4, 11, 0},
@@ -101,6 +103,8 @@ public final class WaysTest {
         Due.is("15: meet(1, 18)", h.meet(1, 18), 18);
         Due.is("15: meet(1, 9)", h.meet(1, 9), -2);
         Due.is("15: at the top", h.meet(20, 21), -2);
+        h.louvre(16, 2);
+        Due.is("15: at the top", h.meet(0, 17), 21);
         Due.is("15: meet(24, 0)", h.meet(24, 0), -1);
         Due.is("15: meet(0, 24)", h.meet(0, 24), -1);
         Due.is("15: meet(-1, 0)", h.meet(-1, 0), -1);
@@ -142,6 +146,9 @@ public final class WaysTest {
         h.louvre(0, 2);
         Due.is("17: turned back", h.turn(0, 4, 100), 1);
         Due.is("17: right", h.turn(0, 5, 100), 0);
+        Due.is("17: the last column", h.turn(3, 7, 100), 0);
+        Due.is("17: the last column", h.turn(15, 22, 1), 2);
+        Due.is("17: no such place from above", h.turn(15, 22, 2), -4);
         h.louvre(5, 2);
         h.louvre(10, 2);
         Due.is("17: all turned", h.turn(0, 15, 100), 0);
@@ -255,6 +262,10 @@ public final class WaysTest {
         Due.is("22: bends", h.ropes(3, 0, 1), 10);
         Due.is("22: bends at the top", h.ropes(16, 0, 0), 1);
         Due.is("22: bends at the top", h.ropes(16, 0, 1), 5);
+        h = greased(17, 18, 19, 12);
+        Due.is("22: not along the side again", h.ropes(8, 0, 0), -2);
+        h = greased(16, 17, 18, 15);
+        Due.is("22: nor along the other", h.ropes(11, 0, 0), -2);
         h = greased(20, 21, 22, 23);
         Due.is("22: no way", h.ropes(0, 0, 0), -2);
         Due.is("22: a way", h.ropes(0, 3, 0), 0);

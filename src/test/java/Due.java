@@ -2,15 +2,21 @@
 final class Due {
     private static int asked = 0;
     private static int wrong = 0;
+    private static String under = "";
 
     private Due() {
+    }
+
+    /** What stands ahead of every call that is told from here on. */
+    static void under(String words) {
+        under = words;
     }
 
     static void is(String call, long got, long want) {
         asked++;
         if (got != want) {
             wrong++;
-            System.out.println(call + " answered " + got + ", due is " + want);
+            System.out.println(under + call + " answered " + got + ", due is " + want);
         }
     }
 
@@ -50,6 +56,18 @@ final class Due {
             text.append((char) value);
         }
         return text.toString();
+    }
+
+    /** A new hotel with a law (none if it is empty) and guests: a room, then the sins of its guest, and so on. */
+    static GrilleHotel hotel(String law, int... guests) {
+        GrilleHotel hotel = new GrilleHotel();
+        for (int i = 0; i + 1 < guests.length; i += 2) {
+            hotel.guest(guests[i], guests[i + 1]);
+        }
+        if (!law.isEmpty()) {
+            is("the law " + law + " is taken", law(hotel, law) > 0, true);
+        }
+        return hotel;
     }
 
     static int law(GrilleHotel hotel, String text) {

@@ -9,6 +9,7 @@ final class AskedEdges {
         breakfast();
         dust();
         median();
+        firstRooms();
         keep();
         undo();
         kept();
@@ -144,6 +145,39 @@ final class AskedEdges {
         Due.is("of the last room", last.dust(1), 4);
     }
 
+    /** Room 0 feels only what a guest brought there: 1 of room 1, felt in room 5. */
+    private static void firstRooms() {
+        GrilleHotel h = Due.hotel("c9(1=1);d10(p=5)", 1, 1, 5, 0, 9, 0);
+        h.hours(1);
+        Doc.says(26, "(of like ones the lowest); the median");
+        Due.register(h, "5@0");
+        Due.is("room 0 feels more than rooms 1 and 9", h.dust(0), 1);
+        Due.is("of 0 0 1", h.dust(1), 0);
+        Due.register(h, "1!");
+        Due.is("room 0 feels more than room 9", h.dust(0), 9);
+        Due.register(h, "9!");
+        Due.is("room 0 alone", h.dust(0), 0);
+        Due.is("room 0 alone", h.dust(1), 1);
+        Doc.says(21, "else ROOMS (bits) that FEEL something of ROOM what");
+        Due.is("1 is something", h.breakfast(1), Due.bits(0));
+        Doc.says(10, "7 that ROOM (nothing: -2)");
+        Due.is("most of room 1", h.roomIs(0, 7), 1);
+        Due.is("most of room 1", h.roomIs(0, 6), 1);
+        Doc.says(21, "the ROOM that FEELS most in all");
+        Due.is("room 0", h.breakfast(100), 0);
+        Due.register(h, "0@1");
+        Due.is("room 1", h.breakfast(100), 1);
+        Due.register(h, "1=5");
+        Due.is("nobody", h.breakfast(100), -2);
+        GrilleHotel one = Due.hotel("", 0, 7);
+        Doc.says(26, "-2: no GUESTS");
+        Due.is("one in room 0", one.dust(0), 0);
+        Due.is("one in room 0", one.dust(1), 0);
+        Due.register(one, "0!");
+        Due.is("none", one.dust(0), -2);
+        Due.is("none", one.dust(1), -2);
+    }
+
     private static void keep() {
         Doc.says(28, "`int keep()`: KEPT: THE HOUR.");
         GrilleHotel h = new GrilleHotel();
@@ -220,10 +254,10 @@ final class AskedEdges {
     private static GrilleHotel changedBehind(GrilleHotel h) {
         h.keep();
         Due.law(h, "c9(1=1);k2(1=1);d7(1=1)");
-        for (int r = 0; r < 24; r++) {
+        for (int r : new int[] {0, 1, 6, 12, 17, 22, 23}) {
             h.guest(r, 500);
             h.louvre(r, r % 3);
-            h.grille(r, r % 7 != 5);
+            h.grille(r, r % 4 == 2);
         }
         h.hours(9);
         h.seed(4242);

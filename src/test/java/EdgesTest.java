@@ -9,6 +9,7 @@ public final class EdgesTest {
         WayEdges.all();
         AskedEdges.all();
         TapeEdges.all();
+        RefusedEdges.all();
         if (args.length > 0) {
             Doc.printUntested();
         }

@@ -69,6 +69,10 @@ public final class FaceTest {
     private static void nested() {
         Class<?>[] inside = GrilleHotel.class.getDeclaredClasses();
         Due.is("at most twelve classes", inside.length + 1 <= 12, true);
+        Set<String> names = new HashSet<>();
+        for (String told : FACE) {
+            names.add(told.substring(told.indexOf(' ') + 1, told.indexOf('(')));
+        }
         for (Class<?> one : inside) {
             Due.is(one + " is static", Modifier.isStatic(one.getModifiers()), true);
             int fields = 0;
@@ -78,6 +82,7 @@ public final class FaceTest {
             Due.is(one + " has at most twenty fields, " + fields, fields <= 20, true);
             for (Method method : one.getDeclaredMethods()) {
                 Due.is(method + " has at most seven parameters", method.getParameterCount() <= 7, true);
+                Due.is(method + " bears a name of its own", names.contains(method.getName()), false);
             }
         }
     }

@@ -6,6 +6,7 @@ public final class ModelTest {
     private final GrilleHotel hotel = new GrilleHotel();
     private final Model model = new Model();
     private final String run;
+    private int asked = 0;
 
     private ModelTest(int seed) {
         random = new Random(seed);
@@ -13,7 +14,7 @@ public final class ModelTest {
     }
 
     public static void main(String[] args) {
-        int runs = args.length > 0 ? Integer.parseInt(args[0]) : 300;
+        int runs = args.length > 0 ? Integer.parseInt(args[0]) : 400;
         for (int seed = 0; seed < runs; seed++) {
             new ModelTest(seed).go();
         }
@@ -25,7 +26,8 @@ public final class ModelTest {
         if (style > 0) {
             fill();
         }
-        for (int calls = 0; calls < 300; calls++) {
+        // An object is promised for 512 calls; a text takes some twenty.
+        for (int calls = 0; calls < 300 && asked < 480; calls++) {
             call();
         }
     }
@@ -52,10 +54,12 @@ public final class ModelTest {
     }
 
     private void is(String call, long got, long want) {
+        asked++;
         Due.is(run + call, got, want);
     }
 
     private void is(String call, boolean got, boolean want) {
+        asked++;
         Due.is(run + call, got, want);
     }
 
@@ -357,7 +361,7 @@ public final class ModelTest {
         int n = some(0, 24);
         StringBuilder bytes = new StringBuilder();
         for (int r = 0; r < n; r++) {
-            int sins = r < 24 ? hotel.roomIs(r, 0) : 0;
+            int sins = r < 24 ? model.roomIs(r, 0) : 0;
             bytes.append((char) (random.nextInt(60) == 0 ? random.nextInt(256) : Math.max(0, sins) % 256));
         }
         text(bytes.toString(), 260);
@@ -420,7 +424,7 @@ public final class ModelTest {
                 is("breakfast(" + asked + ")", hotel.breakfast(asked), model.breakfast(asked));
                 break;
             case 4:
-                int most = hotel.roomIs(random.nextInt(24), 4);
+                int most = model.roomIs(random.nextInt(24), 4);
                 int bound = random.nextInt(3) == 0 ? some(0, 99999) : most;
                 int kind = some(0, 1);
                 is("ropes(" + r + "," + bound + "," + kind, hotel.ropes(r, bound, kind), model.ropes(r, bound, kind));

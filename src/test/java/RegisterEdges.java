@@ -188,6 +188,16 @@ final class RegisterEdges {
         Due.is("23!", Due.register(h, "23!"), 1);
         Due.is("feels nothing", h.feels(23, 19), 0);
         Due.is("what came out of it is felt still", h.feels(8, 4), 5);
+        GrilleHotel shut = Due.hotel("", 7, 5);
+        Due.is("7!", Due.register(shut, "7s;7<;7!"), 3);
+        Due.is("its grille stays as it is", shut.roomIs(7, 2), 0);
+        Due.is("its louvre stays as it is", shut.roomIs(7, 3), 0);
+        Due.is("another one comes", Due.register(shut, "7=6"), 1);
+        Due.is("its grille stays as it is", shut.roomIs(7, 2), 0);
+        Due.is("its louvre stays as it is", shut.roomIs(7, 3), 0);
+        shut.guest(7, 8);
+        Due.is("its grille stays as it is", shut.roomIs(7, 2), 0);
+        Due.is("its louvre stays as it is", shut.roomIs(7, 3), 0);
         Doc.says(7, "or o (open), s (shut), or < (60), | (124), > (62) (LOUVRE left, straight, right)");
         String[] texts = {"7o", "7s", "7<", "7|", "7>"};
         int[] open = {1, 0, 1, 1, 1};

@@ -3,7 +3,10 @@ final class State {
     private State() {
     }
 
-    /** It asks some two hundred times, and undoes at last: nothing is to be asked of that hotel behind it. */
+    /**
+     * It asks some two hundred times, checks the tape against the sins (so who wants to see its bytes gives the rooms
+     * as many), and undoes at last: nothing is to be asked of that hotel behind it.
+     */
     static String of(GrilleHotel hotel) {
         StringBuilder text = new StringBuilder("counts");
         counts(hotel, text);
@@ -12,9 +15,9 @@ final class State {
         for (int what = 0; what <= 3; what++) {
             text.append(' ').append(hotel.tried(7, what));
         }
+        text.append(" tape ").append(hotel.check(Math.min(24, hotel.count(5))));
         text.append(" undone ").append(hotel.undo());
         counts(hotel, text);
-        text.append(" tape ").append(hotel.check(Math.min(24, hotel.count(5))));
         return text.toString();
     }
 
@@ -30,7 +33,9 @@ final class State {
             for (int what : new int[] {0, 2, 3, 4, 5}) {
                 text.append(' ').append(hotel.roomIs(r, what));
             }
-            for (int of = 0; of < 24 && hotel.roomIs(r, 5) > 0; of++) {
+            // Nothing from floor 5 comes out anywhere.
+            int felt = hotel.roomIs(r, 5);
+            for (int of = 0; of < 20 && felt > 0; of++) {
                 text.append(" of ").append(hotel.feels(r, of));
             }
         }

@@ -274,6 +274,13 @@ final class TermsEdges {
         Doc.says(12, "-2: no such place; NONE: no such ROOM.");
         Doc.bounds("way(r, 0)", r -> h.way(r, 0), 0, 23, -1);
         Doc.bounds("way(r, -1)", r -> h.way(r, -1), 0, 23, -1);
+        Doc.says(12, "ROOMS 0 to 23: FLOOR 0 to 5 (ROOM through 4), COLUMN 0 to 3 (ROOM modulo 4).");
+        GrilleHotel straight = new GrilleHotel();
+        for (int r = 0; r < 24; r++) {
+            Due.is("places above " + r, straight.way(r, 5 - r / 4), 24);
+            Due.is("the way of " + r, straight.way(r, 0), r < 20 ? r + 4 : 24);
+            Due.is("the column of " + r, r < 20 ? straight.turn(r, r + 4, 0) : r % 4, r % 4);
+        }
         Doc.says(6, "f the FLOOR of that");
         for (int r = 0; r < 24; r++) {
             Due.is("f of " + r, Due.hotel("c1+f(r=p)", r, 9).tried(1, 2), 1 + r / 4);

@@ -267,6 +267,14 @@ final class LawEdges {
         Due.is("the new one", Due.law(h, "c9(r=1)"), 1);
         Due.is("its rules", h.count(4), 1);
         Due.is("nothing of the old one holds", h.tried(1, 2), 9);
+        String[] older = {"x(1=1);x(1=1)", "c1(1=2);c9(1=1);c9(1=1)", "x(1=1)" + ";x(1=1)".repeat(15)};
+        for (String old : older) {
+            GrilleHotel many = Due.hotel(old, 0, 50);
+            for (String law : new String[] {"c5+1(1=1)", "x(1=2);c5+1(1=1)", "c5+1(1=1);k0(1=1)", "c5+1(1=1)"}) {
+                Due.is(law, Due.law(many, law) > 0, true);
+                Due.is(law + " behind " + old, many.tried(1, 2), 6);
+            }
+        }
     }
 
     /** Long laws one behind the other: none is in the next one's way. */

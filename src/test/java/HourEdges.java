@@ -249,7 +249,6 @@ final class HourEdges {
         Doc.says(9, "what 0 how much came out in ROOMS, 1 how much settled, 2 how much went out at the top");
         Doc.says(9, "3 SINS of all then, 100 + r all that ROOM r FEELS then; NONE: no such ones.");
         GrilleHotel h = Due.hotel("c9(1=1);k2(p=23);d10(p=23)", 19, 50, 23, 8);
-        h.grille(23, true);
         int[] dues = {7, 2, 8, 41};
         for (int what = 0; what <= 3; what++) {
             Due.is("tried(1, " + what + ")", h.tried(1, what), dues[what]);

@@ -47,7 +47,6 @@ final class LawEdges {
         }, 1, 240, -1);
         Due.is("the one that was taken", h.count(4), 1);
         Doc.says(6, "NONE: no such n, it has not so many (the tape stays).");
-        Due.feed(h, "x(1=1);x(1=2);x(1=3)");
         h.check(0);
         Due.feed(h, "x(1=1);x(1=2);x(1=3)");
         Due.is("one more than it has", h.law(21), -1);
@@ -234,7 +233,7 @@ final class LawEdges {
         Due.is("a ( within it counts", answer("x((1=1&(((((1=1)))))))"), -5011);
         Due.is("a [ is open till its ]", answer("x([[[[[1]]]]]+[[[[[1]]]]]=[[[[[1]]]]])"), 1);
         Due.is("a [ within it counts", answer("x([1+[[[[[1]]]]]]=1)"), -5009);
-        Due.is("each rule counts for itself", answer("x(!!!!!1=1);x(!!!!!1=1)"), 1 + 1);
+        Due.is("each rule counts for itself", answer("x(!!!!!1=1);x(!!!!!1=1)"), 2);
     }
 
     private static void theFirstFromTheLeft() {

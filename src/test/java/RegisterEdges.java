@@ -182,7 +182,7 @@ final class RegisterEdges {
         GrilleHotel h = felt();
         Due.is("4!", Due.register(h, "4!"), 1);
         Due.is("left", h.roomIs(4, 0), -2);
-        Due.is("no sins of it", h.count(7), 45 + 0);
+        Due.is("no sins of it", h.count(7), 45);
         Due.is("feels nothing", h.roomIs(4, 5), 0);
         Due.is("of any", h.feels(4, 0), 0);
         Due.is("23!", Due.register(h, "23!"), 1);

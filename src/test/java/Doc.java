@@ -2,6 +2,8 @@ import java.io.IOException;
 import java.nio.file.Files;
 import java.nio.file.Path;
 import java.util.BitSet;
+import java.util.HashSet;
+import java.util.Set;
 import java.util.function.IntToLongFunction;
 
 /** The document's own words: each test of an edge says which sentence it holds the class to. */
@@ -10,6 +12,7 @@ final class Doc {
     private static final String TEXT = read();
     private static final BitSet TESTED = new BitSet();
     private static final int[] SENTENCES = new int[PROMISES + 1];
+    private static final Set<String> WORDS = new HashSet<>();
 
     private Doc() {
     }
@@ -29,6 +32,7 @@ final class Doc {
         Due.under(promise + ", '" + words + "': ");
         Due.is("the document says so", TEXT.isEmpty() || TEXT.contains(words), true);
         SENTENCES[promise]++;
+        WORDS.add(words);
         for (int at = TEXT.indexOf(words); at >= 0; at = TEXT.indexOf(words, at + 1)) {
             TESTED.set(at, at + words.length());
         }
@@ -45,12 +49,10 @@ final class Doc {
 
     static void end() {
         Due.under("");
-        int all = 0;
         for (int promise = 1; promise <= PROMISES; promise++) {
             Due.is("promise " + promise + " has sentences that are tested", SENTENCES[promise] > 0, true);
-            all += SENTENCES[promise];
         }
-        System.out.println(all + " sentences of the document have tests of their own");
+        System.out.println(WORDS.size() + " sentences, or parts of one, of the document have tests of their own");
     }
 
     /** Those words that no test names, for who looks for an edge that was left out. */

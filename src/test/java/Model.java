@@ -729,27 +729,23 @@ final class Model {
                 }
             }
         }
-        int best = asked;
-        for (int shut = asked; ; shut = shut - 1 & asked) {
-            int now = shut;
-            if (pairs.stream().allMatch(pair -> (pair & now) != 0)
-                && (Integer.bitCount(shut) < Integer.bitCount(best)
-                || Integer.bitCount(shut) == Integer.bitCount(best) && shut < best)) {
-                best = shut;
-            }
-            if (shut == 0) {
-                break;
-            }
-        }
+        int best = cover(pairs, 0, asked);
         return what == 0 ? Integer.bitCount(best) : best;
     }
 
-    int active() {
-        int found = 0;
-        for (int r = 0; r < 24; r++) {
-            found += world.active(r) ? 1 : 0;
+    /** Of each pair that is still open either end is shut in its turn; the best of all that come of it. */
+    static int cover(List<Integer> pairs, int shut, int best) {
+        if (Integer.bitCount(shut) > Integer.bitCount(best)) {
+            return best;
         }
-        return found;
+        for (int pair : pairs) {
+            if ((pair & shut) == 0) {
+                int lower = Integer.lowestOneBit(pair);
+                int upper = Integer.highestOneBit(pair);
+                return cover(pairs, shut | lower, cover(pairs, shut | upper, best));
+            }
+        }
+        return Integer.bitCount(shut) < Integer.bitCount(best) ? shut : Math.min(shut, best);
     }
 
     long sleep(int n, int rooms, int what) {
